@@ -155,6 +155,8 @@ public final class DepthsTest {
         due.is("one that goes over out of them tells as much", x.way(0, 1), 1);
         due.is("and goes over", x.way(0, 2), 5);
         due.is("another tells it itself", x.way(3, 1), 4);
+        x.frame(0, 13);
+        due.is("the least is the first of all", x.way(2, 1), 0);
     }
 
     private static void wayOfNothing() {
@@ -210,6 +212,10 @@ public final class DepthsTest {
         due.is("itself too", x.endless(2), 2);
         x.turns(2, 1);
         due.is("all told", x.endless(3), NONE);
+        x.call(0, 0, false, false);
+        due.is("the first of all", x.endless(0), 0);
+        x.turns(0, 9);
+        due.is("told too", x.endless(0), NONE);
         due.is("no routine", x.endless(4), BAD);
         due.is("no routine below", x.endless(-1), BAD);
     }

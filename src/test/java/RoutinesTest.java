@@ -145,6 +145,8 @@ public final class RoutinesTest {
         StackDepths x = Due.with(1, 2);
         due.is("takes", x.take(7, 1), 1);
         due.is("does so already", x.take(7, 1), STATE);
+        due.is("another routine", x.take(7, 0), 1);
+        due.is("still does so", x.take(7, 1), STATE);
         due.is("another pointer", x.take(0, 1), 1);
         due.is("no routine", x.take(0, 2), BAD);
         due.is("no routine below", x.take(0, -1), BAD);
@@ -159,6 +161,10 @@ public final class RoutinesTest {
         StackDepths x = Due.with(1);
         due.is("flows", x.flow(0, 7), 1);
         due.is("does so already", x.flow(0, 7), STATE);
+        due.is("another into it", x.flow(0, 5), 1);
+        due.is("still does so", x.flow(0, 7), STATE);
+        x.take(7, 0);
+        due.is("the goals of both", x.goals(0), 1);
         due.is("the other way", x.flow(7, 0), 1);
         due.is("one and the same", x.flow(3, 3), STATE);
         due.is("no pointer p", x.flow(8, 0), BAD);
@@ -188,6 +194,12 @@ public final class RoutinesTest {
         y.flow(0, 7);
         y.take(5, 0);
         due.is("round", y.goals(4), 5);
+        StackDepths two = Due.with(1, 1, 1, 1);
+        two.flow(0, 1);
+        two.flow(0, 2);
+        two.take(1, 1);
+        two.take(2, 3);
+        due.is("of two that flow in", two.goals(0), 10);
         due.is("no pointer", y.goals(8), BAD);
         due.is("no pointer below", y.goals(-1), BAD);
         StackDepths z = new StackDepths();
@@ -244,8 +256,13 @@ public final class RoutinesTest {
         x.call(0, 3, true, false);
         due.is("a pointer without goals", x.about(0, 4), 0);
         x.take(4, 2);
+        due.is("a goal of another pointer", x.about(0, 4), 0);
         x.flow(3, 4);
         due.is("goals that flow later", x.about(0, 4), 1);
+        x.take(5, 1);
+        x.call(0, 5, true, false);
+        due.is("by two pointers", x.about(0, 4), 2);
+        x.cut(0, 5, true, false);
         x.call(2, 4, true, true);
         due.is("a tail to itself by a pointer", x.about(2, 2), 0);
         x.take(4, 0);

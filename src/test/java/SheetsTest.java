@@ -94,6 +94,7 @@ public final class SheetsTest {
     private static void scan() {
         StackDepths x = Due.with(1, 2);
         fill(x, 2, 1, 9, 0, 1, 0, 1, 0, 1, 9);
+        due.is("no ring yet", x.depth(0), 1);
         due.is("from cell 1 on", x.scan(2, 1, 1, 2), 2);
         due.is("the first is there", x.call(0, 1, false, false), STATE);
         due.is("the second is a tail", x.call(1, 0, false, true), STATE);

@@ -107,6 +107,8 @@ public final class TasksTest {
         StackDepths x = withTasks(1, 2, 3);
         due.is("were not", x.apart(0, 1, false), 0);
         due.is("become", x.apart(0, 1, true), 0);
+        due.is("were", x.apart(0, 1, false), 1);
+        due.is("no more, from the same side", x.apart(0, 1, true), 0);
         due.is("were, from the other side", x.apart(1, 0, true), 1);
         due.is("others are not", x.apart(1, 2, true), 0);
         due.is("no more", x.apart(1, 0, false), 1);

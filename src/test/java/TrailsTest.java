@@ -30,6 +30,13 @@ public final class TrailsTest {
         due.is("one routine", x.ran(2), 1);
         due.is("the most begins anew", x.ran(1), 8);
         due.is("strange begins anew", x.ran(3), 0);
+        x.turns(1, 1);
+        x.enter(1);
+        due.is("once over", x.ran(4), 1);
+        x.frame(0, 0);
+        x.run(0);
+        due.is("over begins anew", x.ran(4), 0);
+        due.is("the most is nothing", x.ran(1), 0);
     }
 
     private static void enter() {
