@@ -115,6 +115,9 @@ public final class RoutinesTest {
     private static void callsAreFull() {
         StackDepths x = withSixtyCalls();
         due.is("sixty", x.count(1), 60);
+        due.is("all twenty reach the first", x.about(0, 5), 20);
+        due.is("the last is together with none", x.about(19, 3), 19);
+        due.is("three are reached", x.about(19, 4), 3);
         due.is("full", x.call(0, 0, false, false), FULL);
         due.is("there before full", x.call(0, 0, false, true), STATE);
         due.is("bad before full", x.call(0, 20, false, true), BAD);

@@ -33,6 +33,8 @@ public final class TasksTest {
         due.is("full", x.interrupt(1, 0, 0), FULL);
         due.is("bad before full", x.interrupt(8, 0, 0), BAD);
         due.is("eight", x.count(2), 8);
+        x.task(0, 0, 0);
+        due.is("all of them on top", x.total(0, 1), 2 + 6 * 102);
     }
 
     private static void task() {
