@@ -747,8 +747,8 @@ public final class StackDepths {
         }
 
         /**
-         * A ROUTINE has one more than those that it REACHES and is not TOGETHER with: itself. So to
-         * go by the number puts what is called ahead of its callers.
+         * Counted with itself, a ROUTINE REACHES more than each one that it REACHES and is not
+         * TOGETHER with. So to go by that number puts what is called ahead of its callers.
          */
         private void orderLeaders() {
             leading = 0;
