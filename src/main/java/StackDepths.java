@@ -941,7 +941,11 @@ public final class StackDepths {
         private int least;
 
         int divide(Tasks tasks) {
-            least = Integer.MAX_VALUE;
+            // A group for each TASK alone is a way too, so the way that is wanted has less than this.
+            least = 1;
+            for (int t = 0; t < tasks.size; t++) {
+                least += rooms[t];
+            }
             place(tasks, 0, 0, 0);
             return least;
         }

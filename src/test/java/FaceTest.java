@@ -9,6 +9,7 @@ import java.util.ArrayList;
 import java.util.Arrays;
 import java.util.Collections;
 import java.util.List;
+import java.util.regex.Matcher;
 import java.util.regex.Pattern;
 import java.util.stream.Stream;
 
@@ -27,6 +28,10 @@ public final class FaceTest {
         "throw", "throws", "try", "catch", "finally", "synchronized", "assert", "import", "package", "protected",
         "volatile", "native", "System", "Object", "Exact", "random", "Thread", "var",
     };
+    private static final List<String> LISTED = List.of(
+            "Integer.compare(", "Integer.bitCount(", "Integer.max(", "Integer.min(", "Math.max(", "Math.min(",
+            "Math.abs(", "Math.floorDiv(", "Math.floorMod(", "Long.compare(", "Long.bitCount(", "Long.max(",
+            "Long.min(");
 
     public static void main(String[] args) throws IOException {
         constants();
@@ -34,6 +39,7 @@ public final class FaceTest {
         hiddenMembers();
         String code = withoutComments(Files.readString(Path.of("src/main/java/StackDepths.java")));
         words(code);
+        library(code);
         lengths(code);
         due.end();
     }
@@ -110,6 +116,14 @@ public final class FaceTest {
         }
         for (String sign : new String[] {"->", "::", "while (true)", "for (;;)", "\"", " / ", " % ", "@"}) {
             due.holds("the class does without " + sign, !code.contains(sign));
+        }
+    }
+
+    /** Rule 4 lists functions of these classes and none of their constants (promise 18, shared, had one). */
+    private static void library(String code) {
+        Matcher use = Pattern.compile("\\b(Integer|Long|Math|Short|Byte|Character|Boolean)\\.(\\w+\\(?)").matcher(code);
+        while (use.find()) {
+            due.holds("rule 4 lists " + use.group(), LISTED.contains(use.group(1) + "." + use.group(2)));
         }
     }
 
